@@ -765,46 +765,54 @@ public final class RindTalk {
         final int[] best = new int[MOST_CHEESES];
         int fewest = NONE;
         private final int[][] had = new int[MOST_CHEESES][MOST_DAYS + 1];
-        private final int[] layers = new int[MOST_CHEESES];
+        private final int[] deepest = new int[MOST_CHEESES];
+        /** The words that a cheese and those behind it can bring at all. */
+        private final int[] within = new int[MOST_CHEESES + 1];
         private final int[] row = new int[MOST_CHEESES];
-        private int cheeses = 0, wanted = 0, barred = 0;
+        private int cheeses = 0, wanted = 0;
 
         void find(Dairy dairy, int words, int others) {
             cheeses = dairy.cheeses;
             wanted = words;
-            barred = others;
             fewest = NONE;
-            for (int k = 0; k < cheeses; k++) {
-                int heardSet = dairy.talksTo(k, NONE);
-                layers[k] = Integer.bitCount(heardSet);
-                for (int depth = 0; depth <= layers[k]; depth++) {
-                    had[k][depth] = dairy.wordsDown(heardSet, depth);
-                }
+            within[cheeses] = 0;
+            for (int k = cheeses - 1; k >= 0; k--) {
+                measure(dairy, k, others);
+                within[k] = within[k + 1] | had[k][deepest[k]];
             }
             cutFrom(0, 0, 0);
         }
 
-        /** Rows come in their order, so that of several as short the first one stays. */
-        private void cutFrom(int k, int hadSoFar, int sum) {
-            if (fewest != NONE && sum >= fewest) {
-                return;
-            }
-            if (k >= cheeses) {
-                if ((wanted & ~hadSoFar) == 0) {
-                    fewest = sum;
-                    System.arraycopy(row, 0, best, 0, MOST_CHEESES);
-                }
-                return;
-            }
-            for (int depth = 0; depth <= layers[k]; depth++) {
-                int words = had[k][depth];
+        /** How deep a cheese may be cut, which ends where a barred word lies, and what is had by each depth. */
+        private void measure(Dairy dairy, int k, int barred) {
+            int heardSet = dairy.talksTo(k, NONE);
+            int layers = Integer.bitCount(heardSet);
+            for (int depth = 0; depth <= layers; depth++) {
+                int words = dairy.wordsDown(heardSet, depth);
                 if ((words & barred) != 0) {
                     return;
                 }
+                had[k][depth] = words;
+                deepest[k] = depth;
+            }
+        }
+
+        /** Rows come in their order, so that of several as short the first one stays. */
+        private void cutFrom(int k, int hadSoFar, int sum) {
+            boolean isShorter = fewest == NONE || sum < fewest;
+            if (!isShorter || (wanted & ~(hadSoFar | within[k])) != 0) {
+                return;
+            }
+            if (k >= cheeses) {
+                fewest = sum;
+                System.arraycopy(row, 0, best, 0, MOST_CHEESES);
+                return;
+            }
+            for (int depth = 0; depth <= deepest[k]; depth++) {
                 // A cutting that ends on a layer without a new word is never the least.
-                if (depth == 0 || words != had[k][depth - 1]) {
+                if (depth == 0 || had[k][depth] != had[k][depth - 1]) {
                     row[k] = depth;
-                    cutFrom(k + 1, hadSoFar | words, sum + depth);
+                    cutFrom(k + 1, hadSoFar | had[k][depth], sum + depth);
                 }
             }
         }

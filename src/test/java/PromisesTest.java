@@ -112,15 +112,18 @@ public final class PromisesTest {
         text("q5,c5", -104);
         text("q1,c0", -105);
         text("q1,c0:", -105);
+        text("q1,c0/", -105);
         text("q1,c09", -106);
         text("q1,c09q", -106);
         text("q1,c09;", -107);
         text("q2,c09;2", -107);
+        text("q2,c09;/", -107);
         text("q2,c09;1", -108);
         text("q2,c09;10", -108);
         text("q2,c09;1:", -108);
         text("q2,c09;19", -109);
         text("q2,c09;198", -109);
+        text("q2,c09;19/", -109);
         text("q2,c09;197", 1);
         text("q2,c09;197,c00;111", -110);
         text("q2,c09;197;", -111);
@@ -170,6 +173,9 @@ public final class PromisesTest {
         is("2 taken again", Due.take(x, "q5,m44;090;090;090"), 3);
         is("2 cheeses", x.many(1), 1);
         is("2 cellars", x.many(2), 5);
+        is("2 moves of long ago are gone", x.many(3), 0);
+        is("2 readings of long ago are gone", x.many(4), 0);
+        is("2 turned long ago is gone", x.ofCheese(0, 3), -9);
     }
 
     // Promises 3, 4
@@ -430,6 +436,20 @@ public final class PromisesTest {
         x.wall(1, 1);
         spareIs(x, 2, 4, 1, 0, 1, 0, 0, -9);
         spareIs(x, 6, 0, 2, 0, 0, 0, 2, -9);
+        // Layers from the rind on: words 1 1 1 2 2 3 3 0, of the other one, by mites, 1 2 3 0.
+        x = Due.dairyOf("q2,c05,m05;090;093;093;092;092;091;091;091");
+        x.move(1, 0, 1);
+        spareIs(x, 1, 0, 4, 0, 4, -9);
+        spareIs(x, 4, 0, 2, 0, 2, -9);
+        x.wall(1, 0);
+        spareIs(x, 1, 0, 8, 8, 0, -9);
+        spareIs(x, 4, 0, 4, 4, 0, -9);
+        spareIs(x, 12, 0, 6, 6, 0, -9);
+        spareIs(x, 15, 0, 8, 8, 0, -9);
+        spareIs(x, 14, 1, 6, 6, 0, -9);
+        spareIs(x, 2, 4, 1, 1, 0, -9);
+        spareIs(x, 15, 16, 8, 8, 0, -9);
+        spareIs(x, 16, 0, -9, -9, -9, -9);
         is("13 no such cheese", x.spare(6, 0, MAX), -9);
         is("13 UNKNOWN", x.spare(6, 0, MIN), -1);
         is("13 sets", x.spare(MAX, 0, 0), -2);
@@ -465,6 +485,11 @@ public final class PromisesTest {
         shelveIs(x, 2, 2, -9);
         x = Due.dairyOf("q3,w09,c01;010;010;111;212;213");
         shelveIs(x, 2, 0, 2, -9);
+        x = Due.dairyOf("q5,c01,c01,c01,c01;414;010;212;111;313");
+        shelveIs(x, 4, 0, 1, 2, 3, -9);
+        x = Due.dairyOf("q5,c01,c05,c01,c05;414;010;252;111;353");
+        // In cellar 0 words 0 and 2 are heard, in cellar 1 words 1, 2 and 3: the thick ones bring none.
+        shelveIs(x, 4, 0, 0, 1, 0, -9);
         // Mites leave out each other one of what comes there.
         x = Due.dairyOf("q2,m01;010;011;110;010");
         shelveIs(x, 1, 0, -9);
@@ -487,6 +512,7 @@ public final class PromisesTest {
         is("16 UNKNOWN", x.alone(-1), -1);
         x.wall(1, 0);
         is("15 turned", x.common(), 0);
+        is("16 what the first one heard too", Due.dairyOf("q1,c00,c00;093;095").alone(1), 0);
         is("15 one alone", Due.dairyOf("q1,c00;093;095").common(), 8 + 32);
         is("16 one alone", Due.dairyOf("q1,c00;093;095").alone(0), 8 + 32);
         is("15 words by several talks", Due.dairyOf("q5,c05,c45;093;493").common(), 8);
