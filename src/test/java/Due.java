@@ -13,6 +13,16 @@ final class Due {
         }
     }
 
+    void same(String what, String got, String want) {
+        asked++;
+        if (!got.equals(want)) {
+            wrong++;
+            if (wrong <= 40) {
+                System.out.println(what + ":\n  is     " + got + "\n  due is " + want);
+            }
+        }
+    }
+
     /** Prints the count and ends with exit code 1 if an answer was wrong. */
     void end() {
         System.out.println(asked + " answers looked at, " + wrong + " not as due");
