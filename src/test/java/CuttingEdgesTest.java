@@ -273,6 +273,11 @@ public final class CuttingEdgesTest {
         z.wall(2, 0);
         spareIs("none else has it", z, 4, 0, 0, 3, 0);
         spareIs("barred ahead of it", z, 4, 1, -9, -9, -9);
+        // From the rind on: words 0, 1 of the one, 0, 2 of the other; word 0 is had by both.
+        RindTalk both = Due.dairyOf("q5,c09,c49;091;492;090;490");
+        spareIs("a word had twice is had", both, 7, 0, 2, 2);
+        spareIs("a word had twice need not be wanted", both, 6, 0, 2, 2);
+        spareIs("a word had twice is barred", both, 6, 1, -9, -9);
     }
 
     // Terms 3: 'NONE: it can't be'
@@ -286,6 +291,10 @@ public final class CuttingEdgesTest {
         spareIs("a word that is not said", y, 2, 0, -9);
         spareIs("one said, one not", y, 3, 0, -9);
         is("promise 13, it can't be, and no such CHEESE", y.spare(2, 0, 1), -9);
+        RindTalk fewer = Due.dairyOf("q2,c01,c11;010;111");
+        spareIs("of two", fewer, 3, 0, 1, 1);
+        Due.take(fewer, "q2,c01;010;111");
+        spareIs("a word that only one of an earlier TEXT has", fewer, 3, 0, -9);
     }
 
     // Promise 14: 'how many WORDS are HEARD then (k -1), the CELLAR of CHEESE k; NONE .. UNKNOWN: k below -1; STATE'

@@ -85,6 +85,18 @@ public final class FaceTest {
             }
         }
         need(RindTalk.class.getDeclaredClasses().length <= 12, "too many classes inside");
+        fieldsAreFew(RindTalk.class);
+        for (Class<?> inside : RindTalk.class.getDeclaredClasses()) {
+            fieldsAreFew(inside);
+        }
+    }
+
+    private static void fieldsAreFew(Class<?> type) {
+        int fields = 0;
+        for (Field field : type.getDeclaredFields()) {
+            fields += Modifier.isStatic(field.getModifiers()) ? 0 : 1;
+        }
+        need(fields <= 20, type + " has " + fields + " fields");
     }
 
     private static void source(String text) {

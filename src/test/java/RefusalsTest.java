@@ -336,8 +336,11 @@ public final class RefusalsTest {
             faulty("28 UNKNOWN (other), ahead of NULL", ANY, x -> x.copy(3, 0, n, 0, 0), UNKNOWN, 0);
         }
         faulty("28 NULL (both)", ANY, x -> x.copy(3, 0, 3, 0, 0), -11, 1);
-        some("28 NULL (the first), ahead of INDEX", x -> x.copy(3, -1, 0, -1, -1), -11, 1);
-        some("28 NULL (the other), ahead of INDEX", x -> x.copy(0, -1, 3, -1, -1), -11, 1);
+        for (int k = 0; k < 3; k++) {
+            int there = k;
+            some("28 NULL (the first), whatever the LANE of the other", x -> x.copy(3, -1, there, -1, -1), -11, 1);
+            some("28 NULL (the other), whatever the LANE of the first", x -> x.copy(there, -1, 3, -1, -1), -11, 1);
+        }
         some("28 CAST, ahead of INDEX", x -> x.copy(0, -1, 1, -1, -1), -12, 2);
         some("28 CAST, of none", x -> x.copy(1, 0, 2, 0, 0), -12, 2);
         int[][] beyond = {{-1, 0, 0}, {0, -1, 0}, {0, 0, -1}, {7, 0, 0}, {0, 7, 0}, {0, 0, 7}, {3, 0, 4}, {0, 3, 4}, {6, 0, 1}, {0, 6, 1},

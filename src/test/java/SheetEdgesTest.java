@@ -337,6 +337,12 @@ public final class SheetEdgesTest {
         is("promise 28, NULL of both", x.copy(2, 0, 3, 0, 0), -11);
         is("promise 28, NULL of the same", x.copy(2, 0, 2, 0, 0), -11);
         is("promise 33, NULL", x.fault(), 1);
+        x.sheet(2, 2, 3);
+        x.lose(2);
+        is("promise 28, NULL of one that had ints", x.copy(2, 0, 0, 0, 0), -11);
+        is("promise 28, NULL of one that had ints", x.copy(1, 0, 2, 0, 0), -11);
+        is("promise 27, NULL of one that had ints", x.cell(2, 0, 0), LOST);
+        is("promise 33, nothing is no CAST", x.fault(), 1);
         is("promise 28, CAST ahead of INDEX", x.copy(0, -1, 1, -1, -1), -12);
         is("promise 28, CAST ahead of INDEX", x.copy(1, 4, 0, 4, 1), -12);
         is("promise 28, CAST though none is taken", x.copy(0, 0, 1, 0, 0), -12);

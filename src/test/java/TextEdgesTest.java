@@ -23,6 +23,7 @@ public final class TextEdgesTest {
         placesCountFromTheTextsBegin();
         refusedTextsLeaveAll();
         takenTextsMakeAllAnew();
+        eachOfSeveralTextsMakesAllAnew();
         due.end();
     }
 
@@ -319,6 +320,34 @@ public final class TextEdgesTest {
         Due.take(x, "q1,c00;010");
         due.is("promise 32, TRACE is not of the TEXT", x.trace(), trace);
         due.is("promise 27, nor are SHEETS", x.cell(2, 5, 2), 8);
+    }
+
+    // .. the third and the fourth one, too, also where those ahead of it had more of all
+    private static void eachOfSeveralTextsMakesAllAnew() {
+        String[] texts = {"q5,c01,c11,c21,c31;010;111;212;313", "q2,c01,w10;111;010", "q1,m00;012", "q3,c01,c21,c11;010;215;111"};
+        RindTalk x = new RindTalk();
+        for (int round = 0; round < 2; round++) {
+            for (String text : texts) {
+                Due.take(x, text);
+                due.is("promise 2, no MOVES, " + text, x.many(3), 0);
+                due.is("promise 2, no READINGS, " + text, x.many(4), 0);
+                due.is("promise 2, nothing is TURNED, " + text, x.ofCheese(0, 3), -9);
+                RindTalk fresh = Due.dairyOf(text);
+                for (int k = -1; k < 2; k++) {
+                    due.is("promise 13, " + text, x.spare(3, 0, k), fresh.spare(3, 0, k));
+                    due.is("promise 14, " + text, x.shelve(k), fresh.shelve(k));
+                }
+                due.is("promise 15, " + text, x.common(), fresh.common());
+                due.is("promise 16, " + text, x.alone(0), fresh.alone(0));
+                due.is("promise 8, " + text, x.where(0, 7), fresh.where(0, 7));
+                due.is("promise 9, " + text, x.heard(0), fresh.heard(0));
+                due.is("promise 20, " + text, x.words(0), 255);
+                due.is("promise 5, the first MOVE, " + text, x.move(0, 0, 0), 0);
+                due.is("promise 5, the second MOVE, " + text, x.move(0, 5, 0), 1);
+                due.is("promise 7, it was never, " + text, x.wall(0, 1), -9);
+                due.is("promise 17, the first READING, " + text, x.reading(0, 0, 7), 0);
+            }
+        }
     }
 
     private static String dairyPart(RindTalk x) {
