@@ -19,6 +19,7 @@ public final class FaceTest {
         face(Files.readString(Path.of("../shared/DOC.md")));
         hidden();
         source(Files.readString(Path.of("src/main/java/RindTalk.java")));
+        promisesAreTested(Files.readString(Path.of("../shared/DOC.md")));
         System.out.println("the face and the language: " + wrong + " faults");
         if (wrong != 0) {
             System.exit(1);
@@ -113,6 +114,21 @@ public final class FaceTest {
         }
         need(text.chars().allMatch(c -> c == '\n' || (c >= 32 && c < 127)), "a sign beyond the plain ones stands in the class");
         methodsStayShort(code);
+    }
+
+    /** Each promise of the document is named by answers of the tests of its edges. */
+    private static void promisesAreTested(String document) throws IOException {
+        StringBuilder tests = new StringBuilder();
+        for (String part : new String[] {"Text", "Hearing", "Cutting", "Reading", "Sheet"}) {
+            tests.append(Files.readString(Path.of("src/test/java/" + part + "EdgesTest.java")));
+        }
+        Matcher promises = Pattern.compile("## Promise (\\d+):").matcher(document);
+        int found = 0;
+        while (promises.find()) {
+            found++;
+            need(tests.indexOf("\"promise " + promises.group(1) + ", ") >= 0, "no test of edges names promise " + promises.group(1));
+        }
+        need(found == 34, "the document's promises were not read: " + found);
     }
 
     private static void methodsStayShort(String code) {

@@ -39,27 +39,27 @@ public final class SheetEdgesTest {
     // Promise 1: 'No DAIRY (no CELLARS, CHEESES, TALKS), SHEETS have nothing.'
     private static void aNewObject() {
         RindTalk x = new RindTalk();
-        is("promise 33, 0 ahead of any", x.fault(), 0);
-        is("promise 32, 0 at first", x.trace(), 0);
+        is("promise 1, by promise 33, 0 ahead of any", x.fault(), 0);
+        is("promise 1, by promise 32, 0 at first", x.trace(), 0);
         for (int what = 0; what < 5; what++) {
-            is("promise 34, 0 all without a DAIRY", x.many(what), 0);
+            is("promise 1, by promise 34, 0 all without a DAIRY", x.many(what), 0);
         }
         for (int k = 0; k < 4; k++) {
             for (int lane = 0; lane < 3; lane++) {
-                is("promise 27, a SHEET has nothing", x.cell(k, 0, lane), LOST);
-                is("promise 33, NULL", x.fault(), 1);
-                is("promise 2, a SHEET has nothing", x.dairy(k, lane, 0, 0), -11);
-                is("promise 12, a SHEET has nothing", x.cuts(k, lane, 0, 0, 0), -11);
+                is("promise 1, by promise 27, a SHEET has nothing", x.cell(k, 0, lane), LOST);
+                is("promise 1, by promise 33, NULL", x.fault(), 1);
+                is("promise 1, by promise 2, a SHEET has nothing", x.dairy(k, lane, 0, 0), -11);
+                is("promise 1, by promise 12, a SHEET has nothing", x.cuts(k, lane, 0, 0, 0), -11);
             }
-            is("promise 26, a SHEET has nothing", x.put(k, 0, 1), -11);
-            is("promise 28, a SHEET has nothing", x.copy(k, 0, k, 0, 0), -11);
-            is("promise 25, a SHEET has nothing", x.lose(k), 0);
+            is("promise 1, by promise 26, a SHEET has nothing", x.put(k, 0, 1), -11);
+            is("promise 1, by promise 28, a SHEET has nothing", x.copy(k, 0, k, 0, 0), -11);
+            is("promise 1, by promise 25, a SHEET has nothing", x.lose(k), 0);
         }
-        is("promise 29, no CHEESE", x.tell(0), -1);
-        is("promise 30, no CHEESE", x.tap(0), -1);
-        is("promise 31, no CHEESE", x.as(0, 0), -1);
-        is("promise 31, UNKNOWN ahead of OUTSIDE", x.as(0, 3), -1);
-        is("promise 32, still 0", x.trace(), 0);
+        is("promise 1, by promise 29, no CHEESE", x.tell(0), -1);
+        is("promise 1, by promise 30, no CHEESE", x.tap(0), -1);
+        is("promise 1, by promise 31, no CHEESE", x.as(0, 0), -1);
+        is("promise 1, by promise 31, UNKNOWN ahead of OUTSIDE", x.as(0, 3), -1);
+        is("promise 1, by promise 32, still 0", x.trace(), 0);
     }
 
     // Terms 5: 'SHEETS 0 .. 3'
