@@ -55,9 +55,10 @@ import javax.tools.SimpleJavaFileObject;
 import javax.tools.ToolProvider;
 
 /**
- * The rules of ../shared/LANGUAGE.md, looked for in the tree that the compiler makes of the class. In some it asks more
+ * The rules of ../shared/LANGUAGE.md that show in the tree that the compiler makes of the class. In some it asks more
  * than they do, since the class needs no more: no doubles, no casts among classes, no while, objects made by
- * constructors alone, divisors and lengths that are written out.
+ * constructors alone, divisors and lengths that are written out. It does not see whether an index is in its row
+ * (rule 7), nor whether a recursion has a guard on its depth (rule 8).
  */
 final class LanguageRules extends TreePathScanner<Void, Void> {
     private static final Set<String> IMPORTS = Set.of("java.util.Arrays", "java.util.ArrayList", "java.util.List", "java.util.Iterator");

@@ -3,7 +3,7 @@ import java.nio.file.Files;
 import java.nio.file.Path;
 import java.util.List;
 
-/** The class keeps to ../shared/LANGUAGE.md; and the look at it finds each rule broken in a small class that breaks it. */
+/** The class keeps to ../shared/LANGUAGE.md, as far as LanguageRules sees; and small classes that break a rule are found. */
 public final class LanguageTest {
     private static int wrong = 0;
     private static int looked = 0;
